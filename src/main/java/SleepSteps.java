@@ -18,6 +18,8 @@ public final class SleepSteps {
     private static final int FIRST_STAND = 0;
     /** A stand is one number, three bits a thread, thread 0 highest: so numbers are in the order of deadlock(). */
     private static final int STANDS = 4096;
+    /** What three bits can count: 0 to 7 steps. */
+    private static final int STEP_COUNTS = 8;
     private static final int SLEEP_SETS = 16;
 
     private final Pad pad = new Pad();
@@ -331,13 +333,13 @@ public final class SleepSteps {
     }
 
     private static boolean isIn(int member, int set) {
-        return (set >> member & 1) != 0;
+        return ((set >> member) & 1) != 0;
     }
 
     // ---- steps: one number each, the kind in the higher bits, the variable or lock in the two lowest
 
     private static int codeOf(int kind, int name) {
-        return kind << 2 | name;
+        return (kind << 2) | name;
     }
 
     private static int kindOf(int code) {
@@ -364,12 +366,12 @@ public final class SleepSteps {
     // ---- stands
 
     private static int doneBy(int stand, int thread) {
-        return stand >> 9 - 3 * thread & 7;
+        return (stand >> (9 - 3 * thread)) & 7;
     }
 
     /** Six steps at most fit in three bits; the mask is there so that every answer can be seen to be an index. */
     private static int standAfter(int stand, int thread) {
-        return stand + (1 << 9 - 3 * thread) & STANDS - 1;
+        return (stand + (1 << (9 - 3 * thread))) & (STANDS - 1);
     }
 
     private static int stepsDone(int stand) {
@@ -401,7 +403,7 @@ public final class SleepSteps {
         }
 
         private static int signIn(long characters, int fromLast) {
-            return (int) (characters >>> (8 * fromLast) & 255);
+            return (int) ((characters >>> (8 * fromLast)) & 255);
         }
 
         int length() {
@@ -692,6 +694,8 @@ public final class SleepSteps {
     private static final class StandSpace {
         private final Programs programs = new Programs();
         private boolean isExplored;
+        /** The set of locks that a thread holds, for each thread and each number of steps done. */
+        private final int[] heldByThread = new int[THREADS * STEP_COUNTS];
         private final int[] goers = new int[STANDS];
         private final long[] runsTo = new long[STANDS];
         private boolean isSleepExplored;
@@ -710,12 +714,21 @@ public final class SleepSteps {
             programs.copyFrom(wanted);
             isExplored = true;
             isSleepExplored = false;
+            noteHeldLocks();
             Arrays.fill(goers, 0);
             Arrays.fill(runsTo, 0L);
             runsTo[FIRST_STAND] = 1;
             for (int stand = 0; stand < STANDS; stand++) {
                 if (isReachable(stand)) {
                     goFrom(stand);
+                }
+            }
+        }
+
+        private void noteHeldLocks() {
+            for (int thread = 0; thread < THREADS; thread++) {
+                for (int done = 0; done < STEP_COUNTS; done++) {
+                    heldByThread[thread * STEP_COUNTS + done] = programs.heldAfter(thread, done);
                 }
             }
         }
@@ -750,7 +763,7 @@ public final class SleepSteps {
         int heldLocks(int stand) {
             int held = 0;
             for (int thread = 0; thread < THREADS; thread++) {
-                held |= programs.heldAfter(thread, doneBy(stand, thread));
+                held |= heldByThread[thread * STEP_COUNTS + doneBy(stand, thread)];
             }
             return held;
         }
