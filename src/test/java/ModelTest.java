@@ -75,10 +75,24 @@ public final class ModelTest {
         StringBuilder text = new StringBuilder();
         int names = 1 + numbers.below(4);
         for (int i = numbers.below(mostSteps + 1); i > 0; i--) {
-            text.append("rwllluu".charAt(numbers.below(7))).append(numbers.below(names));
+            addStep(text, names);
         }
         write(text.toString());
         due("program(" + thread + ") " + text, x.program(thread), model.program(thread));
+    }
+
+    /** One step more; in nearly all programs one that is well there. */
+    private void addStep(StringBuilder text, int names) {
+        boolean isAny = numbers.below(25) == 0;
+        for (int tries = 0; tries < 20; tries++) {
+            char kind = "rwllluu".charAt(numbers.below(7));
+            int name = numbers.below(names);
+            boolean holds = text.lastIndexOf("l" + name) > text.lastIndexOf("u" + name);
+            if (isAny || kind != 'l' && kind != 'u' || holds == (kind == 'u')) {
+                text.append(kind).append(name);
+                return;
+            }
+        }
     }
 
     private void someRun(int most) {
