@@ -170,7 +170,8 @@ public final class RefusedTest {
     private static void deadlock() {
         int[] badWhats = {-1, 7, LEAST, MOST};
         Scene scene = busy("01");
-        scene.leavesAll("deadlock(i, 0)", new int[] {-1, 1, LEAST, MOST}, i -> x -> x.deadlock(i, 0), SleepSteps.NO_SUCH);
+        int[] badIndices = {-1, 1, LEAST, MOST};
+        scene.leavesAll("deadlock(i, 0)", badIndices, i -> x -> x.deadlock(i, 0), SleepSteps.NO_SUCH);
         scene.leavesAll("deadlock(1, what)", badWhats, at -> x -> x.deadlock(1, at), SleepSteps.NO_SUCH);
         scene.leavesAll("deadlock(0, what)", badWhats, at -> x -> x.deadlock(0, at), SleepSteps.BAD_VALUE);
         fresh("").leavesAll("deadlock(0, 0)", x -> x.deadlock(0, 0), SleepSteps.NO_SUCH);

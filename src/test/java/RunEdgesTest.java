@@ -16,6 +16,8 @@ public final class RunEdgesTest {
         promise17BadText();
         promise17CannotGo();
         promise17OtherLengths();
+        promise17OtherThreads();
+        promise17AfterOtherQuestions();
         promise17PadAndKeptRunStay();
         promise18FewestAndMost();
         promise18DoesNotCommuteOrSameThread();
@@ -141,6 +143,41 @@ public final class RunEdgesTest {
         }
     }
 
+    /** The same length, and other threads: at the first place alone, and at the last alone. */
+    private static void promise17OtherThreads() {
+        SleepSteps x = all(READS);
+        for (int kept = 0; kept < 4; kept++) {
+            for (int other = 0; other < 4; other++) {
+                int due = kept == other ? 1 : 0;
+                Checks.keep(x, "" + kept);
+                dueAlike(x, "" + other, due);
+                Checks.keep(x, kept + "333");
+                dueAlike(x, other + "333", due);
+                Checks.keep(x, "000" + kept);
+                dueAlike(x, "000" + other, due);
+            }
+        }
+    }
+
+    /** Whether a thread can go is told by the programs that are there, whatever was asked in between. */
+    private static void promise17AfterOtherQuestions() {
+        SleepSteps x = Checks.with("l0u0r1", "l0u0");
+        Checks.keep(x, "00110");
+        x.without(0);
+        dueAlike(x, "00011", 1);
+        x.without(0);
+        dueAlike(x, "01010", 0);
+        x.save(0);
+        Checks.program(x, 0, "l0");
+        Checks.due("17: stands(2) of other programs", x.stands(2), 1);
+        x.undo();
+        dueAlike(x, "00110", 1);
+        Checks.program(x, 0, "w3");
+        Checks.due("17: stands(2) of other programs", x.stands(2), 0);
+        x.restore(0);
+        dueAlike(x, "00011", 1);
+    }
+
     /** It is not said to empty the pad, nor to be a change. */
     private static void promise17PadAndKeptRunStay() {
         for (String run : new String[] {"", "1", "01", "10", "11", "3", "x"}) {
@@ -203,11 +240,12 @@ public final class RunEdgesTest {
         SleepSteps x = Checks.with("w0w3", "w1", "w2");
         SleepSteps kept = Checks.with("w0w3", "w1", "w2");
         Checks.keep(kept, "0012");
+        int[][] due = {{0, 0}, {1, 0}, {2, 0}, {0, 1}};
         for (int variable = 0; variable < 4; variable++) {
             for (int what = 0; what < 2; what++) {
                 String call = "19: lastWrite(" + variable + ", " + what + ")";
                 Checks.due(call, x.lastWrite(variable, what), NONE);
-                Checks.due(call, kept.lastWrite(variable, what), new int[][] {{0, 0}, {1, 0}, {2, 0}, {0, 1}}[variable][what]);
+                Checks.due(call, kept.lastWrite(variable, what), due[variable][what]);
             }
         }
         for (int variable : new int[] {-2, -1, 4, 5, NONE, LEAST, MOST}) {

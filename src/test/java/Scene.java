@@ -1,5 +1,6 @@
 import java.util.ArrayList;
 import java.util.List;
+import java.util.function.IntFunction;
 
 /**
  * A state that can be made again and again. A call that must change nothing is made in one copy of it and not in
@@ -48,7 +49,7 @@ final class Scene {
     }
 
     /** The same for many values of one argument. */
-    void leavesAll(String call, int[] values, java.util.function.IntFunction<Call> made, long due) {
+    void leavesAll(String call, int[] values, IntFunction<Call> made, long due) {
         for (int value : values) {
             leavesAll(call + " with " + value, made.apply(value), due);
         }

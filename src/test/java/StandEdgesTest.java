@@ -111,7 +111,8 @@ public final class StandEdgesTest {
                 for (int i : new int[] {LEAST, -1, 0, 1, n - 1, n, n + 1, MOST}) {
                     boolean isThere = i >= 0 && i < n;
                     int got = x.deadlock(i, what);
-                    Checks.due("11: deadlock(" + i + ", " + what + ") of " + n, got < 0 ? got : 0, isThere ? 0 : NO_SUCH);
+                    String call = "11: deadlock(" + i + ", " + what + ") of " + n;
+                    Checks.due(call, got < 0 ? got : 0, isThere ? 0 : NO_SUCH);
                 }
             }
         }
@@ -195,7 +196,8 @@ public final class StandEdgesTest {
         Checks.due("12: runs(0), the most", most.runs(0), MOST_RUNS);
         Checks.due("12: runs(1), the most", most.runs(1), 0);
         // One step less: 23! / (6! 6! 6! 5!).
-        Checks.due("12: runs(0), one step less", Checks.with(WRITES, WRITES, WRITES, "r0r0r0r0r0").runs(0), MOST_RUNS / 4);
+        SleepSteps less = Checks.with(WRITES, WRITES, WRITES, "r0r0r0r0r0");
+        Checks.due("12: runs(0), one step less", less.runs(0), MOST_RUNS / 4);
     }
 
     /** "BAD_VALUE if what is out of range." */
@@ -278,7 +280,8 @@ public final class StandEdgesTest {
 
     /** "NONE if there is no deadlock", but BAD_VALUE comes first. */
     private static void promise14NoDeadlock() {
-        for (SleepSteps x : new SleepSteps[] {new SleepSteps(), withDeadlocks(0), Checks.with("l0"), Checks.with("r0", "w0")}) {
+        SleepSteps[] objects = {new SleepSteps(), withDeadlocks(0), Checks.with("l0"), Checks.with("r0", "w0")};
+        for (SleepSteps x : objects) {
             for (int place : new int[] {-1, 0, 1, 24, MOST}) {
                 Checks.due("14: wayToDeadlock(" + place + ") of none", x.wayToDeadlock(place), NONE);
             }
@@ -294,7 +297,8 @@ public final class StandEdgesTest {
         Checks.dueText("14: equally long ones", Checks.way(Checks.with("l0r0", "l0r1")), "00");
         Checks.dueText("14: to the other one", Checks.way(Checks.with("l0r0r0", "l0r1")), "11");
         Checks.dueText("14: of one deadlock", Checks.way(Checks.with("", "r0l0l1u1u0", "l1r0l0u0u1")), "1122");
-        Checks.dueText("14: first one, then the other", Checks.way(Checks.with("l1r0l0u0u1", "", "", "l0l1u1u0")), "003");
+        SleepSteps last = Checks.with("l1r0l0u0u1", "", "", "l0l1u1u0");
+        Checks.dueText("14: first one, then the other", Checks.way(last), "003");
         Checks.dueText("14: the highest threads", Checks.way(Checks.with("", "", "l3", "l3l2")), "2");
     }
 
@@ -316,7 +320,7 @@ public final class StandEdgesTest {
         }
     }
 
-    /** "As if these steps were not there": no lock, a lock that nobody has, and one that keeps others from a deadlock. */
+    /** "As if these steps were not there": no lock at all, a lock of nobody, one that keeps others from a deadlock. */
     private static void promise15AsIfNotThere() {
         SleepSteps none = new SleepSteps();
         for (int lock = 0; lock < 4; lock++) {
